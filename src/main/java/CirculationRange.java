@@ -140,7 +140,8 @@ public final class CirculationRange {
             return BAD_VERTEX;
         }
         int amount = roomFrom(s, t);
-        if (amount < 0 || !canReturn(t, s, amount)) {
+        // A smaller amount would help no set: those that the arc from t to s enters have room for this one.
+        if (amount < 0 || !isPossibleWith(t, s, amount)) {
             return NONE;
         }
         return amount;
@@ -202,14 +203,17 @@ public final class CirculationRange {
         return smallest;
     }
 
-    /**
-     * Whether no set lacks once an arc from t to s carries the amount, the sets that it enters left out:
-     * roomFrom has seen to those. A smaller amount would help none of the sets looked at here.
-     */
-    private boolean canReturn(int t, int s, int amount) {
+    /** Whether there is a circulation if one more arc is added, which carries just the amount. */
+    private boolean isPossibleWith(int from, int to, int amount) {
         for (int set = 0; set < SETS; set++) {
-            int carriedOut = crosses(set, t, s) ? amount : 0;
-            if (!crosses(set, s, t) && lackOf(set) > carriedOut) {
+            int lack = lackOf(set);
+            if (crosses(set, to, from)) {
+                lack = lack + amount;
+            }
+            if (crosses(set, from, to)) {
+                lack = lack - amount;
+            }
+            if (lack > 0) {
                 return false;
             }
         }

@@ -388,6 +388,8 @@ public final class PromiseTest {
         x.bounds(1, 0, 2);
         Check.due("through(0, 2): just enough", x.through(0, 2), 2);
         Check.due("possible() after", x.possible(), false);
+        x.arc(3, 4, 20);
+        Check.due("through(3, 4): more than is lacking, but elsewhere", x.through(3, 4), -5);
 
         CirculationRange zero = new CirculationRange();
         zero.arc(0, 1, 4);
