@@ -1,25 +1,40 @@
 /** Counts and prints the answers that are not the ones due. */
 final class Check {
     private static int wrong = 0;
+    private static String sentence = "";
 
     private Check() {
     }
 
-    static void due(String call, long got, long want) {
-        if (got != want) {
-            wrong++;
-            System.out.println(call + " answered " + got + ", due is " + want);
+    /** What is checked from here on belongs to this sentence of the document, with its promise's number. */
+    static void sentence(String words) {
+        sentence = "[" + words + "] ";
+    }
+
+    /** Runs the tests one after the other; one that throws does not keep the others from being run. */
+    static void each(Runnable... tests) {
+        for (Runnable test : tests) {
+            try {
+                test.run();
+            } catch (RuntimeException e) {
+                wrong++;
+                System.out.println(sentence + "a call threw " + e);
+            }
         }
     }
 
+    static void due(String call, long got, long want) {
+        due(call, String.valueOf(got), String.valueOf(want));
+    }
+
     static void due(String call, boolean got, boolean want) {
-        due(call, got ? 1L : 0L, want ? 1L : 0L);
+        due(call, String.valueOf(got), String.valueOf(want));
     }
 
     static void due(String call, String got, String want) {
         if (!got.equals(want)) {
             wrong++;
-            System.out.println(call + " answered " + got + ", due is " + want);
+            System.out.println(sentence + call + " answered " + got + ", due is " + want);
         }
     }
 

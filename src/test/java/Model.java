@@ -127,7 +127,7 @@ final class Model {
         return number < 0 || number > last;
     }
 
-    private int lackOf(int set) {
+    int lackOf(int set) {
         int in = 0;
         int out = 0;
         for (int[] arc : network) {

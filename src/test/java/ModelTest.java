@@ -1,7 +1,7 @@
 /** Long scattered runs of calls, right ones and wrong ones, each answered as the model answers it. */
 public final class ModelTest {
     private static final int RUNS = 600;
-    private static final int CALLS = 500;
+    private static final int CALLS = 512;
 
     public static void main(String[] args) {
         for (int run = 0; run < RUNS; run++) {

@@ -1,72 +1,21 @@
-/** Each promise of the document by hand: ordinary inputs, the edges that it names, and wrong inputs. */
+/** What each promise answers to ordinary calls, by hand; the boundary cases have tests of their own. */
 public final class PromiseTest {
-    private static final int[] NO_VERTICES = {-1, 6, 32, Integer.MIN_VALUE, Integer.MAX_VALUE};
-    private static final int[] NO_AMOUNTS = {-1, 21, Integer.MIN_VALUE, Integer.MAX_VALUE};
-
     public static void main(String[] args) {
-        newObject();
-        arcAnswers();
-        arcRefusals();
-        arcAfterDropLast();
-        boundsAnswers();
-        boundsRefusals();
-        reverseAnswers();
-        reverseRefusals();
-        dropLastAnswers();
-        possibleAnswers();
-        lackAnswers();
-        lackingSetAnswers();
-        leastAndMostAnswers();
-        leastAndMostRefusals();
-        throughAnswers();
-        throughWithoutCirculation();
-        throughRefusals();
-        arcsAnswers();
-        orderOfRefusals();
-        questionsChangeNothing();
-        objectsAreApart();
+        Check.each(
+                PromiseTest::arcAnswers,
+                PromiseTest::boundsAnswers,
+                PromiseTest::reverseAnswers,
+                PromiseTest::dropLastAnswers,
+                PromiseTest::possibleAnswers,
+                PromiseTest::lackAnswers,
+                PromiseTest::lackingSetAnswers,
+                PromiseTest::leastAndMostAnswers,
+                PromiseTest::throughAnswers,
+                PromiseTest::throughWithoutCirculation);
         Check.end();
     }
 
-    /** A ring 0, 1, 2, 0 that carries 2 to 6, with two ways from 0 to 1. */
-    private static CirculationRange ring() {
-        CirculationRange x = new CirculationRange();
-        x.arc(0, 1, 5);
-        x.arc(1, 2, 7);
-        x.arc(2, 0, 9);
-        x.arc(0, 1, 3);
-        x.bounds(1, 2, 6);
-        x.bounds(3, 1, 3);
-        return x;
-    }
-
-    private static CirculationRange twelveArcs() {
-        CirculationRange x = new CirculationRange();
-        for (int i = 0; i < 12; i++) {
-            x.arc(i % 6, (i + 1) % 6, 20 - i);
-        }
-        return x;
-    }
-
-    // Promise 1
-
-    private static void newObject() {
-        CirculationRange x = new CirculationRange();
-        Check.due("new: arcs()", x.arcs(), 0);
-        Check.due("new: possible()", x.possible(), true);
-        Check.due("new: lack()", x.lack(), 0);
-        Check.due("new: lackingSet()", x.lackingSet(), 0);
-        Check.due("new: least(0)", x.least(0), -4);
-        Check.due("new: most(0)", x.most(0), -4);
-        Check.due("new: through(0, 5)", x.through(0, 5), 0);
-        Check.due("new: bounds(0, 0, 0)", x.bounds(0, 0, 0), -4);
-        Check.due("new: reverse(0)", x.reverse(0), -4);
-        Check.due("new: dropLast()", x.dropLast(), -4);
-        Check.due("new: arcs() after refusals", x.arcs(), 0);
-        Check.due("new: arc(0, 1, 1)", x.arc(0, 1, 1), 0);
-    }
-
-    // Promise 2
+    // Promises 2 and 12
 
     private static void arcAnswers() {
         CirculationRange x = new CirculationRange();
@@ -86,43 +35,10 @@ public final class PromiseTest {
         Check.due("through(1, 2): nine arcs together", x.through(1, 2), 9);
     }
 
-    private static void arcRefusals() {
-        for (int bad : NO_VERTICES) {
-            refusedArc(ring(), bad, 1, 5, -1);
-            refusedArc(ring(), 1, bad, 5, -1);
-        }
-        for (int v = 0; v < 6; v++) {
-            refusedArc(ring(), v, v, 5, -1);
-        }
-        for (int bad : NO_AMOUNTS) {
-            refusedArc(ring(), 3, 4, bad, -2);
-        }
-        refusedArc(twelveArcs(), 3, 4, 5, -3);
-        refusedArc(twelveArcs(), 3, 4, 0, -3);
-    }
-
-    private static void refusedArc(CirculationRange x, int from, int to, int most, int want) {
-        String before = Answers.of(x);
-        String call = "arc(" + from + ", " + to + ", " + most + ")";
-        Check.due(call, x.arc(from, to, most), want);
-        Check.due("all answers after " + call, Answers.of(x), before);
-    }
-
-    private static void arcAfterDropLast() {
-        CirculationRange x = new CirculationRange();
-        x.arc(0, 1, 9);
-        x.bounds(0, 4, 9);
-        x.dropLast();
-        Check.due("arc in a dropped arc's place", x.arc(2, 3, 6), 0);
-        Check.due("its least amount is 0 again: lack()", x.lack(), 0);
-        Check.due("its vertices and greatest amount: through(2, 3)", x.through(2, 3), 6);
-        Check.due("the dropped arc's vertices: through(0, 1)", x.through(0, 1), 0);
-    }
-
     // Promise 3
 
     private static void boundsAnswers() {
-        CirculationRange x = ring();
+        CirculationRange x = Networks.ring();
         Check.due("bounds(2, 3, 4)", x.bounds(2, 3, 4), 0);
         Check.due("least(2)", x.least(2), 3);
         Check.due("most(2)", x.most(2), 4);
@@ -136,38 +52,6 @@ public final class PromiseTest {
         Check.due("bounds(2, 0, 0)", x.bounds(2, 0, 0), 0);
         Check.due("lack() with nothing back", x.lack(), 2);
         Check.due("arcs()", x.arcs(), 4);
-    }
-
-    private static void boundsRefusals() {
-        refusedBounds(-1, 1, 2, -4);
-        refusedBounds(4, 1, 2, -4);
-        refusedBounds(12, 1, 2, -4);
-        refusedBounds(Integer.MIN_VALUE, 1, 2, -4);
-        refusedBounds(Integer.MAX_VALUE, 1, 2, -4);
-        for (int arc = 0; arc < 4; arc++) {
-            refusedBounds(arc, -1, 2, -2);
-            refusedBounds(arc, Integer.MIN_VALUE, 2, -2);
-            refusedBounds(arc, 3, 2, -2);
-            refusedBounds(arc, 1, 0, -2);
-            refusedBounds(arc, 1, 21, -2);
-            refusedBounds(arc, 21, 21, -2);
-            refusedBounds(arc, -2, -1, -2);
-            refusedBounds(arc, 0, -1, -2);
-            refusedBounds(arc, 0, Integer.MAX_VALUE, -2);
-            refusedBounds(arc, Integer.MAX_VALUE, Integer.MIN_VALUE, -2);
-            refusedBounds(arc, 21, 20, -2);
-        }
-        CirculationRange dropped = ring();
-        dropped.dropLast();
-        Check.due("bounds of the dropped arc", dropped.bounds(3, 0, 1), -4);
-    }
-
-    private static void refusedBounds(int arc, int least, int most, int want) {
-        CirculationRange x = ring();
-        String before = Answers.of(x);
-        String call = "bounds(" + arc + ", " + least + ", " + most + ")";
-        Check.due(call, x.bounds(arc, least, most), want);
-        Check.due("all answers after " + call, Answers.of(x), before);
     }
 
     // Promise 4
@@ -194,44 +78,28 @@ public final class PromiseTest {
         Check.due("arcs()", x.arcs(), 2);
     }
 
-    private static void reverseRefusals() {
-        for (int bad : new int[] {-1, 4, 12, Integer.MIN_VALUE, Integer.MAX_VALUE}) {
-            CirculationRange x = ring();
-            String before = Answers.of(x);
-            Check.due("reverse(" + bad + ")", x.reverse(bad), -4);
-            Check.due("all answers after reverse(" + bad + ")", Answers.of(x), before);
-        }
-        CirculationRange full = twelveArcs();
-        Check.due("reverse(11) of twelve", full.reverse(11), 0);
-        Check.due("reverse(12) of twelve", full.reverse(12), -4);
-    }
-
     // Promise 5
 
     private static void dropLastAnswers() {
-        CirculationRange x = twelveArcs();
+        CirculationRange x = Networks.twelveArcs();
         for (int left = 11; left >= 0; left--) {
             Check.due("dropLast() to " + left, x.dropLast(), left);
             Check.due("arcs()", x.arcs(), left);
             Check.due("least of the dropped arc", x.least(left), -4);
         }
-        Check.due("dropLast() of none", x.dropLast(), -4);
-        Check.due("dropLast() of none again", x.dropLast(), -4);
-        Check.due("arcs() of none", x.arcs(), 0);
-        Check.due("arc after that", x.arc(0, 1, 1), 0);
 
-        CirculationRange y = ring();
+        CirculationRange y = Networks.ring();
         y.arc(3, 4, 5);
         y.bounds(4, 5, 5);
         Check.due("lack() with the last arc", y.lack(), 5);
         Check.due("dropLast() of the lacking arc", y.dropLast(), 4);
-        Check.due("all answers as before it", Answers.of(y), Answers.of(ring()));
+        Check.due("all answers as before it", Answers.of(y), Answers.of(Networks.ring()));
     }
 
     // Promise 6
 
     private static void possibleAnswers() {
-        CirculationRange x = ring();
+        CirculationRange x = Networks.ring();
         Check.due("possible() of the ring", x.possible(), true);
         x.bounds(2, 6, 6);
         Check.due("possible() where it just fits", x.possible(), true);
@@ -269,14 +137,6 @@ public final class PromiseTest {
         Check.due("lack() with a way on", x.lack(), 9);
         x.arc(3, 2, 2);
         Check.due("lack() with a way back", x.lack(), 7);
-
-        CirculationRange greatest = new CirculationRange();
-        for (int i = 0; i < 12; i++) {
-            greatest.arc(0, 1, 20);
-            greatest.bounds(i, 20, 20);
-        }
-        Check.due("lack() of twelve arcs of 20", greatest.lack(), 240);
-        Check.due("possible()", greatest.possible(), false);
     }
 
     // Promise 8
@@ -309,7 +169,7 @@ public final class PromiseTest {
     // Promises 9 and 10
 
     private static void leastAndMostAnswers() {
-        CirculationRange x = ring();
+        CirculationRange x = Networks.ring();
         int[] least = {0, 2, 2, 1};
         int[] most = {5, 6, 6, 3};
         for (int arc = 0; arc < 4; arc++) {
@@ -335,20 +195,6 @@ public final class PromiseTest {
         Check.due("most(2) of the other ring", twoRings.most(2), 6);
     }
 
-    private static void leastAndMostRefusals() {
-        for (int bad : new int[] {-1, 4, 12, Integer.MIN_VALUE, Integer.MAX_VALUE}) {
-            Check.due("least(" + bad + ")", ring().least(bad), -4);
-            Check.due("most(" + bad + ")", ring().most(bad), -4);
-        }
-        CirculationRange x = ring();
-        x.arc(3, 4, 1);
-        x.bounds(4, 1, 1);
-        for (int arc = 0; arc < 5; arc++) {
-            Check.due("least(" + arc + ") without a circulation", x.least(arc), -5);
-            Check.due("most(" + arc + ") without a circulation", x.most(arc), -5);
-        }
-    }
-
     // Promise 11
 
     private static void throughAnswers() {
@@ -361,16 +207,9 @@ public final class PromiseTest {
         Check.due("through(2, 0) against the arcs", x.through(2, 0), 0);
         Check.due("through(0, 5), no way", x.through(0, 5), 0);
 
-        CirculationRange back = ring();
+        CirculationRange back = Networks.ring();
         Check.due("through(0, 1): 8 less the 2 that must go round", back.through(0, 1), 6);
         Check.due("through(1, 0): arc 1 carries 6, 1 must go round", back.through(1, 0), 5);
-
-        CirculationRange wide = new CirculationRange();
-        for (int i = 0; i < 12; i++) {
-            wide.arc(4, 3, 20);
-        }
-        Check.due("through(4, 3) by twelve arcs", wide.through(4, 3), 240);
-        Check.due("through(3, 4)", wide.through(3, 4), 0);
     }
 
     private static void throughWithoutCirculation() {
@@ -397,79 +236,5 @@ public final class PromiseTest {
         zero.bounds(0, 4, 4);
         Check.due("through(1, 0): all of it must go round", zero.through(1, 0), 0);
         Check.due("through(0, 1): none of it need", zero.through(0, 1), 4);
-    }
-
-    private static void throughRefusals() {
-        for (int bad : NO_VERTICES) {
-            Check.due("through(" + bad + ", 1)", ring().through(bad, 1), -1);
-            Check.due("through(1, " + bad + ")", ring().through(1, bad), -1);
-        }
-        for (int v = 0; v < 6; v++) {
-            Check.due("through(" + v + ", " + v + ")", ring().through(v, v), -1);
-        }
-    }
-
-    // Promise 12
-
-    private static void arcsAnswers() {
-        CirculationRange x = new CirculationRange();
-        for (int i = 1; i <= 12; i++) {
-            x.arc(0, 1, 1);
-            Check.due("arcs() after " + i, x.arcs(), i);
-        }
-        x.arc(0, 1, 1);
-        Check.due("arcs() after a refused one", x.arcs(), 12);
-        x.bounds(3, 1, 1);
-        x.reverse(3);
-        Check.due("arcs() after bounds and reverse", x.arcs(), 12);
-        x.dropLast();
-        Check.due("arcs() after dropLast", x.arcs(), 11);
-    }
-
-    // Promise 13
-
-    private static void orderOfRefusals() {
-        CirculationRange full = twelveArcs();
-        Check.due("arc: vertex before amount before full", full.arc(6, 0, 21), -1);
-        Check.due("arc: vertex before full", full.arc(2, 2, 5), -1);
-        Check.due("arc: amount before full", full.arc(0, 1, 21), -2);
-        Check.due("arc: full alone", full.arc(0, 1, 20), -3);
-        Check.due("arc: vertex before amount", ring().arc(0, -1, -1), -1);
-        Check.due("bounds: no arc before amount", ring().bounds(4, 3, 2), -4);
-        CirculationRange lacking = new CirculationRange();
-        lacking.arc(0, 1, 5);
-        lacking.bounds(0, 5, 5);
-        Check.due("least: no arc before none", lacking.least(1), -4);
-        Check.due("most: no arc before none", lacking.most(1), -4);
-        Check.due("least: no arc before none, below 0", lacking.least(-1), -4);
-        Check.due("most: no arc before none, below 0", lacking.most(-1), -4);
-        Check.due("through: vertex before none", lacking.through(6, 2), -1);
-        Check.due("through: same vertex before none", lacking.through(2, 2), -1);
-    }
-
-    // "The calls below change nothing"
-
-    private static void questionsChangeNothing() {
-        CirculationRange lacking = twelveArcs();
-        lacking.bounds(0, 20, 20);
-        lacking.bounds(1, 0, 3);
-        for (CirculationRange x : new CirculationRange[] {ring(), twelveArcs(), lacking, new CirculationRange()}) {
-            String first = Answers.of(x);
-            Check.due("all answers the second time", Answers.of(x), first);
-            x.least(-1);
-            x.most(12);
-            x.through(0, 6);
-            Check.due("all answers after refused questions", Answers.of(x), first);
-        }
-    }
-
-    private static void objectsAreApart() {
-        CirculationRange one = ring();
-        CirculationRange other = new CirculationRange();
-        String before = Answers.of(one);
-        other.arc(4, 3, 2);
-        other.bounds(0, 1, 2);
-        Check.due("all answers after calls on another object", Answers.of(one), before);
-        Check.due("the other object's arcs()", other.arcs(), 1);
     }
 }
